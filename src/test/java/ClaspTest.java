@@ -98,6 +98,8 @@ public final class ClaspTest {
         x.heard(1, 0);
         Due.due("none", 0, x.fits());
         Due.row("none", x, 0);
+        x.denies();
+        Due.due("what is denied is not heard", 31, x.fits());
         BeadRings y = new BeadRings();
         Due.due("no bracelets", 0, y.fits());
         Due.row("no bracelets", y, 0);

@@ -70,6 +70,12 @@ public final class DoneTest {
         Due.due("last", 3, x.cuts(0, 2));
         Due.beads("cuts", x, "bc", "a");
         Due.stock("cuts", x, 11, 11, 11, 12);
+        x.threads(0, 1, 3);
+        x.threads(0, 1, 0);
+        Due.beads("threaded", x, "badc", "a");
+        Due.due("between", 0, x.cuts(0, 1));
+        Due.due("between", 3, x.cuts(0, 1));
+        Due.beads("between", x, "bc", "a");
         Due.due("only one", -2, x.cuts(1, 0));
         Due.due("none such", -1, x.cuts(1, 1));
         Due.due("none such", -1, x.cuts(0, -1));
@@ -77,7 +83,7 @@ public final class DoneTest {
         x.sheet(2, 4, 99, 0);
         Due.due("stock is full", 1, x.cuts(0, 0));
         Due.stock("stock is full", x, 99, 99, 99, 99);
-        Due.due("undone", 5, x.count(7));
+        Due.due("undone", 9, x.count(7));
     }
 
     private static void joins() {
@@ -193,6 +199,12 @@ public final class DoneTest {
         Due.due("none that could be undone", 4, x.count(7));
         Due.due("-2 is refused too", 0, Due.day(x, "x10"));
         Due.row("-2 is refused too", x, 1, 3);
+        Due.due("one act", 1, Due.day(x, "t20d"));
+        Due.due("one act can be undone", 5, x.count(7));
+        Due.due("one act and one refused", 1, Due.day(x, "s2bd9"));
+        Due.due("they can be undone", 6, x.count(7));
+        Due.row("one act and one refused", x, 1, 2);
+        Due.due("buys d", 1, Due.day(x, "bd1"));
     }
 
     private static void dayFaults() {

@@ -85,6 +85,21 @@ public final class GamesTest {
         Due.row("the row stays", x, 8, 8);
     }
 
+    private static void years(BeadRings x, int[][] want) {
+        for (int[] one : want) {
+            Due.due("years(" + one[0] + ", " + one[1] + ")", one[2], x.years(one[0], one[1]));
+            Due.row("years(" + one[0] + ", " + one[1] + ")", x, one[3], one[4]);
+        }
+    }
+
+    private static void yearsOfOneAndOfFive() {
+        int[][] ofOne = {{5, 60, 3, 1, 45}, {-1, 7, 5, 1, 43}, {99, 31, 3, 1, 45}, {2026, 60, 8, 1, 40}, {3, 12, 2, 1, 46}};
+        years(Due.stall("abca"), ofOne);
+        int[][] ofFive = {
+            {5, 60, 10, 4, 38}, {-1, 37, 11, 4, 37}, {99, 31, 10, 5, 38}, {2026, 60, 15, 5, 33}, {31415, 45, 11, 4, 37}, {8, 58, 18, 5, 30}};
+        years(Due.stall("ab", "ba", "abab", "a", "b"), ofFive);
+    }
+
     private static void years() {
         BeadRings x = Due.stall("abca", "d");
         Due.due("others", -1, x.years(1, 0));
@@ -95,10 +110,7 @@ public final class GamesTest {
         int[][] want = {
             {0, 1, 9, 3, 39}, {1, 5, 11, 3, 37}, {-7, 20, 10, 3, 38}, {123456789, 60, 10, 3, 38},
             {2147483647, 33, 11, 3, 37}, {42, 60, 15, 3, 33}};
-        for (int[] one : want) {
-            Due.due("years(" + one[0] + ", " + one[1] + ")", one[2], x.years(one[0], one[1]));
-            Due.row("years(" + one[0] + ", " + one[1] + ")", x, one[3], one[4]);
-        }
+        years(x, want);
         Due.beads("years change nothing", x, "abca", "d", "abab");
         for (int seed = -50; seed < 50; seed++) {
             int beads = x.years(seed, 60);
@@ -116,6 +128,7 @@ public final class GamesTest {
         law();
         bargains();
         years();
+        yearsOfOneAndOfFive();
         Due.end("GamesTest");
     }
 }

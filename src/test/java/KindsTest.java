@@ -188,8 +188,12 @@ public final class KindsTest {
         Due.rule(x, "h");
         Due.due("alike", 1, x.dear(3));
         Due.row("alike", x, 0, 0, 1);
-        Due.rule(x, "m*m+h*50");
-        Due.due("alike", 54, x.dear(3));
+        Due.rule(x, "m*m+h*40");
+        Due.due("alike", 44, x.dear(3));
+        x.parts(0);
+        Due.due("one that is gone is not alike", 44, x.dear(3));
+        Due.row("one that is gone is not alike", x, 0, 1, 1);
+        Due.due("of other beads", 4, x.dear(2));
         Due.rule(x, "0-9");
         Due.due("dearest of nothing", 0, x.dear(6));
         Due.row("dearest of nothing", x, 0, 0, 0, 0, 0, 0);

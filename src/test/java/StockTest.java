@@ -77,6 +77,11 @@ public final class StockTest {
             int want = rules[i].startsWith("65*") ? wrapped() : answers[i];
             Due.due("price by " + rules[i], want, priceBy(rules[i]));
         }
+        String[] compared = {"2<2", "2>2", "1>2", "3=2", "(1<2)+(3>2)", "((1<2)=1)+(0=0)", "(1<2)*(2=2)+(4>3)+(1=1)"};
+        int[] ones = {0, 0, 0, 0, 2, 2, 3};
+        for (int i = 0; i < compared.length; i++) {
+            Due.due("price by " + compared[i], ones[i], priceBy(compared[i]));
+        }
         BeadRings x = Due.stall("a", "ab", "abab");
         Due.rule(x, "d*10+f");
         Due.due("one bead", 1, x.bracelet(0, 4));
@@ -92,10 +97,10 @@ public final class StockTest {
     private static void ruleFaults() {
         String[] texts = {
             "+", "n+", "n+*c", "nn", "n2", "2n", "1234", "12 ", "(n", "n)", "()", "(((((n)))))", "1<2<3", "1<2+3=4", "1<(2<3)<4",
-            "n<", "x", "N", "-", "--", "(1<2)(", "1+2)", "n=", "<n", "((((n))))(", "n-", "n!"};
+            "n<", "x", "N", "-", "--", "(1<2)(", "1+2)", "n=", "<n", "((((n))))(", "n-", "n!", "~2", "n~2"};
         int[] answers = {
             -1, -3, -3, -2, -2, -2, -4, -3, -3, -2, -2, -5, -4, -6, -8,
-            -3, -1, -1, -2, -3, -6, -4, -3, -1, -10, -3, -2};
+            -3, -1, -1, -2, -3, -6, -4, -3, -1, -10, -3, -2, -1, -2};
         BeadRings x = Due.stall("abc");
         Due.due("rule", 0, Due.rule(x, "n*7"));
         for (int i = 0; i < texts.length; i++) {
@@ -128,6 +133,9 @@ public final class StockTest {
                 Due.due("bracelet(" + b + ", " + what + ")", want[b][what], x.bracelet(b, what));
             }
         }
+        BeadRings y = Due.stall("aab", "aba");
+        y.parts(1);
+        Due.due("one that is gone is not alike", 0, y.bracelet(0, 5));
         Due.throwsNone("bracelet(4, 0)", () -> x.bracelet(4, 0));
         Due.throwsNone("bracelet(-1, 0)", () -> x.bracelet(-1, 0));
         Due.throwsNone("bracelet(0, 6)", () -> x.bracelet(0, 6));
