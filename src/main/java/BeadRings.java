@@ -26,8 +26,8 @@ public final class BeadRings {
     private final Text text;
     private final Told told;
     private final KindLists lists;
-    private final Clasp clasp;
-    private final Hearsay hearsay;
+    private final Clues feltBeads;
+    private final Clues hearsay;
     private final int[] tally;
     private final int[] leastRows;
     private Rule inForce;
@@ -42,8 +42,8 @@ public final class BeadRings {
         text = new Text();
         told = new Told();
         lists = new KindLists();
-        clasp = new Clasp();
-        hearsay = new Hearsay();
+        feltBeads = new Clues(MOST_FELT);
+        hearsay = new Clues(MOST_HEARD);
         tally = new int[COLOURS];
         leastRows = new int[MOST_BRACELETS];
         inForce = new Rule();
@@ -542,12 +542,12 @@ public final class BeadRings {
 
     /** Promise 38. */
     public int felt(int p, int colour) {
-        return clasp.feel(p, colour);
+        return Clues.canBeFelt(p, colour) ? feltBeads.add(p, colour) : NONE;
     }
 
     /** Promise 39. */
     public int forget() {
-        return clasp.empty();
+        return feltBeads.empty();
     }
 
     /** Promise 40. */
@@ -555,7 +555,7 @@ public final class BeadRings {
         if (stall.lacks(bracelet)) {
             return NONE;
         }
-        int left = clasp.left(stall.rows[bracelet], stall.sizes[bracelet]);
+        int left = feltBeads.rollsLeft(stall.rows[bracelet], stall.sizes[bracelet]);
         told.begin();
         told.add(Integer.bitCount(left));
         told.add(left & 1);
@@ -569,14 +569,14 @@ public final class BeadRings {
         }
         int beads = stall.rows[bracelet];
         int n = stall.sizes[bracelet];
-        int left = clasp.left(beads, n);
+        int left = feltBeads.rollsLeft(beads, n);
         if (left == 0) {
             return -2;
         }
         int best = 0;
         int fewest = n + 1;
         for (int p = 0; p < n; p++) {
-            int most = Clasp.mostLeft(beads, n, left, p);
+            int most = Clues.mostLeft(beads, n, left, p);
             if (most < fewest) {
                 fewest = most;
                 best = p;
@@ -591,7 +591,7 @@ public final class BeadRings {
 
     /** Promise 42. */
     public int heard(int what, int v) {
-        return hearsay.hear(what, v);
+        return Clues.canBeHeard(what, v) ? hearsay.add(what, v) : NONE;
     }
 
     /** Promise 43. */
@@ -616,8 +616,8 @@ public final class BeadRings {
         int best = 0;
         int fewest = MOST_BRACELETS + 1;
         for (int question = 0; question < 40; question++) {
-            if (Hearsay.canBeHeard(question / 10, question % 10)) {
-                int so = Integer.bitCount(left & Hearsay.suiting(stall, question / 10, question % 10));
+            if (Clues.canBeHeard(question / 10, question % 10)) {
+                int so = Integer.bitCount(left & Clues.suiting(stall, question / 10, question % 10));
                 int most = Math.max(so, Integer.bitCount(left) - so);
                 if (most < fewest) {
                     fewest = most;
@@ -726,7 +726,7 @@ public final class BeadRings {
             case 4:
                 return stall.pricesOfAll(inForce);
             case 5:
-                return clasp.size;
+                return feltBeads.size;
             case 6:
                 return hearsay.size;
             case 7:
@@ -1876,18 +1876,23 @@ public final class BeadRings {
         }
     }
 
-    /** What was felt behind the clasp. */
-    private static final class Clasp {
-        private final int[] places = new int[MOST_FELT];
-        private final int[] colours = new int[MOST_FELT];
+    /** Pairs that were told: what was felt (place and colour), or what was heard (what and number). */
+    private static final class Clues {
+        private final int[] firsts;
+        private final int[] seconds;
         int size;
 
-        int feel(int p, int colour) {
-            if (p < 0 || p > 9 || Beads.isNoColour(colour) || size >= MOST_FELT) {
+        Clues(int most) {
+            firsts = new int[Math.max(0, most)];
+            seconds = new int[Math.max(0, most)];
+        }
+
+        int add(int first, int second) {
+            if (size >= firsts.length) {
                 return NONE;
             }
-            places[size] = p;
-            colours[size] = colour;
+            firsts[size] = first;
+            seconds[size] = second;
             size++;
             return size;
         }
@@ -1898,20 +1903,24 @@ public final class BeadRings {
             return before;
         }
 
+        static boolean canBeFelt(int p, int colour) {
+            return p >= 0 && p <= 9 && !Beads.isNoColour(colour);
+        }
+
         /** By which rolls of the row all that was felt is so. */
-        int left(int row, int n) {
+        int rollsLeft(int row, int n) {
             int left = 0;
             for (int by = 0; by < n; by++) {
-                if (isAllSo(Beads.rolled(row, n, by), n)) {
+                if (isAllFelt(Beads.rolled(row, n, by), n)) {
                     left |= 1 << by;
                 }
             }
             return left;
         }
 
-        private boolean isAllSo(int rolled, int n) {
+        private boolean isAllFelt(int rolled, int n) {
             for (int i = 0; i < size; i++) {
-                if (Beads.colourAt(rolled, n, places[i] % Math.max(1, n)) != colours[i]) {
+                if (Beads.colourAt(rolled, n, firsts[i] % Math.max(1, n)) != seconds[i]) {
                     return false;
                 }
             }
@@ -1932,13 +1941,6 @@ public final class BeadRings {
             }
             return most;
         }
-    }
-
-    /** What was heard of a bracelet. */
-    private static final class Hearsay {
-        private final int[] whats = new int[MOST_HEARD];
-        private final int[] values = new int[MOST_HEARD];
-        int size;
 
         static boolean canBeHeard(int what, int v) {
             if (what == 1) {
@@ -1947,27 +1949,11 @@ public final class BeadRings {
             return what >= 0 && what <= 3 && v >= 1 && v <= 9;
         }
 
-        int hear(int what, int v) {
-            if (!canBeHeard(what, v) || size >= MOST_HEARD) {
-                return NONE;
-            }
-            whats[size] = what;
-            values[size] = v;
-            size++;
-            return size;
-        }
-
-        int empty() {
-            int before = size;
-            size = 0;
-            return before;
-        }
-
         /** The bracelets that fit all that was heard. */
         int fitting(Stall stall) {
             int left = (1 << stall.number) - 1;
             for (int i = 0; i < size; i++) {
-                left &= suiting(stall, whats[i], values[i]);
+                left &= suiting(stall, firsts[i], seconds[i]);
             }
             return left;
         }
