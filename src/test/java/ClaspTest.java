@@ -122,9 +122,18 @@ public final class ClaspTest {
         BeadRings y = Due.stall("aab", "abb", "aaa");
         Due.due("a colour", 11, y.asks());
         Due.row("a colour", y, 2);
-        BeadRings z = Due.stall("abab", "aabb");
-        Due.due("t", 22, z.asks());
-        Due.row("t", z, 1);
+        String[][] pairs = {
+            {"a", "aa"}, {"aaaaaaaa", "aaaaaaaaa"}, {"abb", "bbb"}, {"aab", "aac"}, {"abca", "abcd"}, {"abab", "aabb"}, {"aabaab", "aaaabb"},
+            {"aaaabb", "aaabbb"}, {"aaabbc", "aabbcc"}, {"aaaaaaaabb", "aaaaaaaaab"}};
+        int[] answers = {2, 9, 10, 11, 13, 22, 23, 34, 33, 39};
+        for (int i = 0; i < pairs.length; i++) {
+            BeadRings z = new BeadRings();
+            z.sheet(2, 4, 99, 0);
+            Due.strings(z, pairs[i][0]);
+            Due.strings(z, pairs[i][1]);
+            Due.due("asks of " + pairs[i][0] + " and " + pairs[i][1], answers[i], z.asks());
+            Due.row("asks of " + pairs[i][0] + " and " + pairs[i][1], z, 1);
+        }
     }
 
     public static void main(String[] args) {

@@ -94,6 +94,16 @@ public final class StockTest {
         return Math.max(0, Math.min(99, value));
     }
 
+    private static void rulesOneBehindAnother() {
+        BeadRings x = Due.stall("aab");
+        String[] rules = {"n+c", "n*2-1", "(n+", "n=3", "1<2<3", "-n+9", "((n", "12", "", "n-1"};
+        int[] prices = {5, 5, 5, 1, 1, 6, 6, 12, 7, 2};
+        for (int i = 0; i < rules.length; i++) {
+            Due.rule(x, rules[i]);
+            Due.due("price behind " + rules[i], prices[i], x.bracelet(0, 4));
+        }
+    }
+
     private static void ruleFaults() {
         String[] texts = {
             "+", "n+", "n+*c", "nn", "n2", "2n", "1234", "12 ", "(n", "n)", "()", "(((((n)))))", "1<2<3", "1<2+3=4", "1<(2<3)<4",
@@ -195,6 +205,7 @@ public final class StockTest {
         signs();
         strings();
         prices();
+        rulesOneBehindAnother();
         ruleFaults();
         told();
         sheets();

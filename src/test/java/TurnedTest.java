@@ -132,6 +132,11 @@ public final class TurnedTest {
         Due.row("around", x, 0, 3);
         Due.due("none such", -1, x.twice(5));
         Due.row("the row stays", x, 0, 3);
+        BeadRings y = Due.stall("abca", "aa");
+        Due.due("of one", 1, y.twice(0));
+        Due.row("of one", y, 0, 3);
+        Due.due("of two beads", 1, y.twice(1));
+        Due.row("of two beads", y, 0, 1);
     }
 
     private static void arc() {
