@@ -7,6 +7,7 @@ final class Due {
 
     private static int asked = 0;
     private static int wrong = 0;
+    private static String place = "";
 
     private Due() {
     }
@@ -15,12 +16,35 @@ final class Due {
         long answer();
     }
 
+    interface Calls {
+        void run();
+    }
+
+    /** What stands ahead of each wrong answer from now on. */
+    static void at(String where) {
+        place = where;
+    }
+
+    static int asked() {
+        return asked;
+    }
+
     static void due(String what, long want, long got) {
         asked++;
         if (got != want) {
             wrong++;
             if (wrong <= 40) {
-                System.out.println(what + " answered " + got + ", due is " + want);
+                System.out.println(place + what + " answered " + got + ", due is " + want);
+            }
+        }
+    }
+
+    static void due(String what, String want, String got) {
+        asked++;
+        if (!got.equals(want)) {
+            wrong++;
+            if (wrong <= 40) {
+                System.out.println(place + what + " was " + got + ", due is " + want);
             }
         }
     }
@@ -102,6 +126,65 @@ final class Due {
             due("strings " + bracelets[i], i, strings(x, bracelets[i]));
         }
         return x;
+    }
+
+    /** A stall that is not as new: purse 18, the ROW 14 and 9, THE TEXT of four signs, one felt, one heard. */
+    static BeadRings lived(String... bracelets) {
+        BeadRings x = stall("abcdabcdab");
+        x.sells(0);
+        x.sheet(2, 4, 20, 10);
+        for (int i = 0; i < bracelets.length; i++) {
+            due("strings " + bracelets[i], i, strings(x, bracelets[i]));
+        }
+        x.felt(1, 1);
+        x.heard(0, 1);
+        x.many(6, 2);
+        x.sign(0x61626364);
+        return x;
+    }
+
+    /** All that can be seen without a question that tells a ROW: bracelets, prices, stock and the counts but the ROW's and THE TEXT's. */
+    static String state(BeadRings x) {
+        StringBuilder state = new StringBuilder("counts");
+        for (int what = 0; what < 8; what++) {
+            state.append(' ').append(x.count(what));
+        }
+        for (int b = 0; b < x.count(0); b++) {
+            state.append(", ").append(letters(x, b)).append(" for ").append(x.bracelet(b, 4));
+        }
+        state.append(", stock");
+        for (int colour = 0; colour < 4; colour++) {
+            state.append(' ').append(x.stock(colour));
+        }
+        return state.toString();
+    }
+
+    static String told(BeadRings x) {
+        StringBuilder told = new StringBuilder("row");
+        for (int i = 0; i < x.count(8); i++) {
+            told.append(' ').append(x.row(i));
+        }
+        return told.toString();
+    }
+
+    static void onlyTextAndRowChange(BeadRings x, Calls calls) {
+        String before = state(x);
+        calls.run();
+        due("all but THE TEXT and the ROW", before, state(x));
+    }
+
+    /** Each of the calls reads THE TEXT, which is empty behind it. */
+    static void onlyTextIsEmptied(BeadRings x, Calls calls) {
+        String before = state(x) + told(x);
+        calls.run();
+        due("all but THE TEXT", before, state(x) + told(x));
+        due("signs of THE TEXT", 0, x.count(9));
+    }
+
+    static void nothingChanges(BeadRings x, Calls calls) {
+        String before = state(x) + told(x) + x.count(9);
+        calls.run();
+        due("all", before, state(x) + told(x) + x.count(9));
     }
 
     /** The bracelet's beads as letters, by bracelet() and bead(). */
