@@ -143,10 +143,11 @@ public final class DoneTest {
 
     private static void fullPurse() {
         BeadRings x = new BeadRings();
-        x.sheet(2, 4, 99, 0);
         Due.rule(x, "999");
         for (int i = 1; i <= 101; i++) {
-            Due.strings(x, i < 99 ? "a" : "b");
+            x.sheet(2, 4, 99, 0);
+            x.sign(0x61626364);
+            x.strings();
             Due.due("sells", 99, x.sells(0));
         }
         Due.due("purse", 9999, x.count(3));

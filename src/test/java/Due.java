@@ -89,34 +89,40 @@ final class Due {
         x.end(text.length());
     }
 
+    /** A call that reads THE TEXT empties it, whatever it answers. */
+    private static int emptied(BeadRings x, int answer) {
+        due("signs of THE TEXT behind a call that reads it", 0, x.count(9));
+        return answer;
+    }
+
     static int strings(BeadRings x, String text) {
         text(x, text);
-        return x.strings();
+        return emptied(x, x.strings());
     }
 
     static int rule(BeadRings x, String text) {
         text(x, text);
-        return x.rule();
+        return emptied(x, x.rule());
     }
 
     static int day(BeadRings x, String text) {
         text(x, text);
-        return x.day();
+        return emptied(x, x.day());
     }
 
     static int finds(BeadRings x, int bracelet, String text) {
         text(x, text);
-        return x.finds(bracelet);
+        return emptied(x, x.finds(bracelet));
     }
 
     static int ways(BeadRings x, String text) {
         text(x, text);
-        return x.ways();
+        return emptied(x, x.ways());
     }
 
     static int law(BeadRings x, String text) {
         text(x, text);
-        return x.law();
+        return emptied(x, x.law());
     }
 
     /** A new object with these bracelets. */

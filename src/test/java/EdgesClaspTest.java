@@ -24,6 +24,12 @@ public final class EdgesClaspTest {
             x.felt(4, 2);
             Due.due("4 by 4 is 0", 4, x.guess(0));
             Due.due("4 by 3 is 1", 2, x.guess(1));
+            x.forget();
+            for (int p = 0; p < 10; p++) {
+                x.felt(p, 3);
+            }
+            Due.due("each by 1 is 0", 1, x.guess(2));
+            Due.due("to feel it again tells nothing", 0, x.feels(2));
         });
         Edge.of(38, "was of a COLOUR: how many such.", () -> {
             BeadRings x = Due.stall("abcd");
@@ -114,6 +120,7 @@ public final class EdgesClaspTest {
         for (int i = 0; i + 1 < felt.length; i += 2) {
             x.felt(felt[i], felt[i + 1]);
         }
+        x.many(6, 2);
         Due.due("feels of " + bracelet, want, x.feels(0));
         Due.row("feels of " + bracelet, x, left);
     }
@@ -289,6 +296,7 @@ public final class EdgesClaspTest {
         for (String bracelet : bracelets) {
             Due.strings(x, bracelet);
         }
+        x.many(6, 2);
         Due.due("asks of " + String.join(" ", bracelets), want, x.asks());
         Due.row("asks of " + String.join(" ", bracelets), x, left);
     }

@@ -575,10 +575,17 @@ public final class EdgesDoneTest {
     private static void promise19Faults() {
         Edge.of(19, "-1 - p: the sign at p can't stand there", () -> {
             dayFaults(new String[] {"q", "0", "a", "f0q", "f0f0f0g", "r00a", "fq", "t00q", "ba1x0z", "x"}, -1, -1, -1, -3, -7, -4, -2, -4, -6, -2);
-            char[] others = {0, 31, 127, 128, 255, 'r' + 128, '0' + 128};
-            for (char other : others) {
-                Due.due("sign " + (int) other + " as an act", -3, Due.day(Due.stall("abcd"), "f0" + other));
-                Due.due("sign " + (int) other + " as a digit", -4, Due.day(Due.stall("abcd"), "f0f" + other));
+            for (int sign = 0; sign < 256; sign++) {
+                BeadRings x = new BeadRings();
+                String one = "" + (char) sign;
+                boolean isDigit = "0123456789".contains(one);
+                boolean isLetter = "abcd".contains(one);
+                Due.due("sign " + sign + " as an act", "rfxtcjusb".contains(one) ? -2 : -1, Due.day(x, one));
+                Due.due("sign " + sign + " behind f", isDigit ? 0 : -2, Due.day(x, "f" + one));
+                Due.due("sign " + sign + " behind r0", isDigit ? 0 : -3, Due.day(x, "r0" + one));
+                Due.due("sign " + sign + " behind t00", isLetter ? 0 : -4, Due.day(x, "t00" + one));
+                Due.due("sign " + sign + " behind b", isLetter ? -3 : -2, Due.day(x, "b" + one));
+                Due.due("sign " + sign + " behind ba", isDigit && sign > '0' ? 0 : -3, Due.day(x, "ba" + one));
             }
             Due.due("at 59", -60, Due.day(Due.stall("abcd"), "f0".repeat(29) + "f" + "f"));
             Due.due("at 59, and more", -60, Due.day(Due.stall("abcd"), "f0".repeat(29) + "ff0"));
@@ -608,35 +615,47 @@ public final class EdgesDoneTest {
         });
     }
 
+    private interface Act {
+        int of(BeadRings x);
+    }
+
+    /** The act is the first one at its place among those that are kept. */
+    private static void undone(String what, Act act) {
+        BeadRings x = Due.lived("abcd", "aab", "c");
+        String before = Due.state(x);
+        Due.due(what + " is done", true, act.of(x) >= 0);
+        Due.due(what + " changes something", false, before.equals(Due.state(x)));
+        Due.due(what + " can be undone", 6, x.count(7));
+        Due.due("undo of " + what, 5, x.undo());
+        Due.due("undo of " + what, before, Due.state(x));
+    }
+
     private static void promise20() {
         Edge.of(20, "The latest strings(), rolls() .. buys() or day()", () -> {
-            BeadRings x = Due.lived("abcd", "aab", "c");
-            String before = Due.state(x);
-            Due.Calls[] acts = {
-                () -> Due.strings(x, "dd"), () -> x.rolls(0, 1), () -> x.flips(0), () -> x.swaps(0, 0), () -> x.threads(0, 0, 0),
-                () -> x.cuts(0, 0)};
-            Due.due("can be undone", 5, x.count(7));
-            for (int i = 0; i < acts.length; i++) {
-                acts[i].run();
-                Due.due("act " + i + " can be undone", 6, x.count(7));
-                Due.due("undo " + i, 5, x.undo());
-                Due.due("behind " + i, before, Due.state(x));
-            }
+            undone("strings", x -> Due.strings(x, "dd"));
+            undone("rolls", x -> x.rolls(0, 1));
+            undone("flips", x -> x.flips(0));
+            undone("swaps", x -> x.swaps(0, 0));
+            undone("threads", x -> x.threads(0, 0, 0));
+            undone("cuts", x -> x.cuts(0, 0));
+            undone("joins", x -> x.joins(0, 1));
+            undone("parts", x -> x.parts(0));
+            undone("sells", x -> x.sells(0));
+            undone("buys", x -> x.buys(0, 1));
+            undone("day", x -> Due.day(x, "f0u1"));
         });
         Edge.of(20, "The latest strings(), rolls() .. buys() or day()", () -> {
             BeadRings x = Due.lived("abcd", "aab", "c");
-            String before = Due.state(x);
-            Due.Calls[] acts = {() -> x.joins(0, 1), () -> x.parts(0), () -> x.sells(0), () -> x.buys(0, 1), () -> Due.day(x, "f0u1")};
-            for (int i = 0; i < acts.length; i++) {
-                acts[i].run();
-                Due.due("act " + i + " can be undone", 6, x.count(7));
-                Due.due("undo " + i, 5, x.undo());
-                Due.due("behind " + i, before, Due.state(x));
-            }
+            Due.day(x, "ba1");
             x.rolls(0, 1);
             x.flips(1);
             x.undo();
             Due.beads("the latest one", x, "bcda", "aab", "c");
+            x.undo();
+            Due.beads("the one ahead of it", x, "abcd", "aab", "c");
+            Due.due("purse", 17, x.count(3));
+            x.undo();
+            Due.due("the day", 18, x.count(3));
         });
         Edge.of(20, "(of 15 that are kept, the latest ones;", () -> {
             BeadRings x = Due.stall("abcd");
@@ -723,6 +742,13 @@ public final class EdgesDoneTest {
             Due.due("THE TEXT is not", 4, x.count(9));
             Due.due("what is kept is not", true, x.again(0));
             Due.due("what is kept is not", 1, x.count(0));
+        });
+        Edge.of(20, "is undone (BRACELETS, STOCK, PURSE are as ahead of it):", () -> {
+            BeadRings x = Due.lived("abcd", "aab", "c", "abca", "ddab");
+            String before = Due.state(x);
+            Due.due("each of five", 9, Due.day(x, "r41f4x30t10dc00j12u0s1bd9"));
+            Due.due("undo", 7, x.undo());
+            Due.due("undo", before, Due.state(x));
         });
         Edge.of(20, "how many are left that can be.", () -> {
             BeadRings x = Due.stall("a", "b", "c");

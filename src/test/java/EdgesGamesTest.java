@@ -61,6 +61,11 @@ public final class EdgesGamesTest {
             Due.due("n*n", 33 - 9, Due.law(x, "n*n"));
             Due.due("THE RULE stays", 9, x.count(4));
             Due.due("of 40 signs", 3 - 9, Due.law(x, "-".repeat(38) + "01"));
+            String[] laws = {"12", "33-1", "1234", "20", "(1", "21", "1<2<3", "1<2", "", "7"};
+            int[] want = {36 - 9, 96 - 9, -10003, 60 - 9, -10002, 63 - 9, -10003, 3 - 9, 21 - 9, 21 - 9};
+            for (int i = 0; i < laws.length; i++) {
+                Due.due("one behind another, " + laws[i], want[i], Due.law(x, laws[i]));
+            }
         });
         Edge.of(47, "(an empty one: none):", () -> {
             BeadRings x = Due.stall("abca", "abab", "d");
@@ -82,6 +87,7 @@ public final class EdgesGamesTest {
         });
         Edge.of(47, "the ROW: both.", () -> {
             BeadRings x = Due.stall("abca", "d");
+            x.many(6, 2);
             Due.law(x, "n");
             Due.row("by it, by THE RULE", x, 5, 13);
             BeadRings y = new BeadRings();
@@ -213,6 +219,9 @@ public final class EdgesGamesTest {
                 years(Due.stall("aab", want), new int[] {2, 0, number}, 8, 1, 40);
             }
             years(Due.stall("aab", "acab"), new int[] {2, 0, 2}, 8, 2, 40);
+            // The one that was threaded is BEAD 0 then, and is cut again.
+            years(Due.stall("ab", "ab"), new int[] {2, 0, 2, 3, 0, 0}, 4, 1, 44);
+            years(Due.stall("ab", "ca"), new int[] {2, 0, 2, 3, 0, 2}, 4, 1, 44);
         });
         Edge.of(49, "3: cuts() at it (rest likewise)", () -> {
             String[] left = {"bcda", "acda", "abda", "abca", "abcd"};

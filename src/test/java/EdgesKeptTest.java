@@ -30,6 +30,15 @@ public final class EdgesKeptTest {
             x.again(0);
             Due.beads("kept anew", x, "dd");
         });
+        Edge.of(50, "What undo() brings back is kept under a number 0 .. 2: true.", () -> {
+            BeadRings x = Due.stall("abcd", "aab", "c", "abca", "ddab");
+            x.keep(0);
+            Due.day(x, "r01f1t20ax30c43s0ba9");
+            x.again(0);
+            Due.beads("each of five", x, "abcd", "aab", "c", "abca", "ddab");
+            Due.stock("of each colour", x, 6, 8, 9, 9);
+            Due.due("purse", 0, x.count(3));
+        });
         Edge.of(50, "Refused: others.", () -> {
             BeadRings x = Due.lived("abca");
             Due.nothingChanges(x, () -> {

@@ -69,9 +69,17 @@ public final class EdgesKindsTest {
 
     private static void ways(String text, int want, long... row) {
         BeadRings x = new BeadRings();
+        x.many(6, 2);
         Due.due("ways " + text, want, Due.ways(x, text));
         Due.row("ways " + text, x, row);
         Due.due("stock is not asked for", 48, x.count(2));
+    }
+
+    private static void addWays(long[] sums, String text) {
+        BeadRings x = new BeadRings();
+        sums[0] += Due.ways(x, text);
+        sums[1] += x.row(0);
+        sums[2] += x.row(1);
     }
 
     private static void promise30() {
@@ -96,6 +104,22 @@ public final class EdgesKindsTest {
             ways("aaabbb", 3, 4, 20);
             ways("abbbbbbbbb", 1, 1, 10);
         });
+        Edge.of(30, "the ROW: how many, if none may be FLIPPED (as many()); in how many rows they can lie.", () -> {
+            // Of so many beads, all that can be told together are all kinds, and all rows, that there are.
+            for (int n = 1; n <= 10; n++) {
+                long[] sums = new long[3];
+                for (int a = 0; a <= n; a++) {
+                    for (int b = 0; a + b <= n; b++) {
+                        for (int c = 0; a + b + c <= n; c++) {
+                            addWays(sums, "d".repeat(n - a - b - c) + "c".repeat(c) + "b".repeat(b) + "a".repeat(a));
+                        }
+                    }
+                }
+                Due.due("kinds of " + n, KINDS[3][n - 1], sums[0]);
+                Due.due("rolled kinds of " + n, ROLLED[3][n - 1], sums[1]);
+                Due.due("rows of " + n, 1L << 2 * n, sums[2]);
+            }
+        });
         Edge.of(30, "-1 - p: as strings().", () -> {
             BeadRings x = Due.lived("abca");
             Due.onlyTextIsEmptied(x, () -> {
@@ -111,6 +135,7 @@ public final class EdgesKindsTest {
 
     private static void nth(int n, int k, int m, long... row) {
         BeadRings x = new BeadRings();
+        x.many(6, 2);
         Due.due("nth(" + n + ", " + k + ", " + m + ")", 0, x.nth(n, k, m));
         Due.row("nth(" + n + ", " + k + ", " + m + ")", x, row);
     }
@@ -204,6 +229,7 @@ public final class EdgesKindsTest {
 
     private static void next(String bracelet, String want) {
         BeadRings x = Due.stall(bracelet);
+        x.many(6, 2);
         Due.due("next of " + bracelet, 0, x.next(0));
         Due.row("next of " + bracelet, x, colours(want));
     }
@@ -254,6 +280,7 @@ public final class EdgesKindsTest {
 
     private static void once(int k, int w, long... row) {
         BeadRings x = new BeadRings();
+        x.many(6, 2);
         Due.due("once(" + k + ", " + w + ")", row.length, x.once(k, w));
         Due.row("once(" + k + ", " + w + ")", x, row);
     }
@@ -439,6 +466,7 @@ public final class EdgesKindsTest {
 
     private static void odds(String bracelet, long upper, long lower) {
         BeadRings x = Due.stall(bracelet);
+        x.many(6, 2);
         Due.due("odds of " + bracelet, 0, x.odds(0));
         Due.row("odds of " + bracelet, x, upper, lower);
     }

@@ -119,6 +119,12 @@ public final class EdgesStockTest {
             }
             Due.due("of two the first", -2, Due.strings(x, "axbx"));
         });
+        Edge.of(4, "-1 - p: the sign at p can't stand there", () -> {
+            for (int sign = 0; sign < 256; sign++) {
+                BeadRings x = new BeadRings();
+                Due.due("sign " + sign, sign >= 'a' && sign <= 'd' ? 0 : -1, Due.strings(x, "" + (char) sign));
+            }
+        });
         Edge.of(4, "(its end for none;", () -> {
             BeadRings x = new BeadRings();
             Due.due("none", -1, x.strings());
@@ -205,6 +211,28 @@ public final class EdgesStockTest {
             Due.due("THE RULE stays", 28, x.bracelet(0, 4));
             Due.due("at its last sign", -40, Due.rule(x, "n+".repeat(19) + "n" + "n"));
         });
+        Edge.of(5, "-1 - p: the sign at p can't stand there", () -> {
+            for (int sign = 0; sign < 256; sign++) {
+                BeadRings x = new BeadRings();
+                String one = "" + (char) sign;
+                boolean isDigit = "0123456789".contains(one);
+                boolean isJoin = "+-*/<>=".contains(one);
+                int first = isDigit || "nctfmdh".contains(one) ? 0 : "-(".contains(one) ? -2 : -1;
+                Due.due("sign " + sign + " at first", first, Due.rule(x, one));
+                Due.due("sign " + sign + " behind a letter", isJoin ? -3 : -2, Due.rule(x, "n" + one));
+                Due.due("sign " + sign + " behind a digit", isDigit ? 0 : isJoin ? -3 : -2, Due.rule(x, "1" + one));
+                Due.due("sign " + sign + " behind a bracket", ")".equals(one) ? 0 : isJoin ? -4 : -3, Due.rule(x, "(n" + one));
+            }
+        });
+        Edge.of(5, "THE TEXT is THE RULE", () -> {
+            String[] rules = {"12", "345-300", "nn", "67", "8+90", "(1", "-", "7", "n+", "(((((", "123-99", "1<2", "1=2", "((((n))))", "n"};
+            int[] prices = {12, 45, 45, 67, 98, 98, 98, 7, 7, 7, 24, 1, 0, 4, 4};
+            BeadRings x = Due.stall("abca");
+            for (int i = 0; i < rules.length; i++) {
+                Due.rule(x, rules[i]);
+                Due.due("price behind " + rules[i], prices[i], x.bracelet(0, 4));
+            }
+        });
         Edge.of(5, "(its end, if it ends too early;", () -> {
             BeadRings x = Due.lived("abca");
             Due.rule(x, "n*7");
@@ -215,6 +243,7 @@ public final class EdgesStockTest {
                     Due.due("rule " + texts[i], want[i], Due.rule(x, texts[i]));
                 }
                 Due.due("of 40 signs", -41, Due.rule(x, "n+".repeat(20)));
+                Due.due("of 40 signs -", -41, Due.rule(x, "-".repeat(40)));
                 Due.due("of 40 signs, in a bracket", -41, Due.rule(x, "(" + "n+".repeat(19) + "n"));
             });
             Due.due("THE RULE stays", 28, x.bracelet(0, 4));
@@ -233,6 +262,7 @@ public final class EdgesStockTest {
                 Due.due("a number goes on", -41, Due.rule(x, "n+".repeat(19) + "-12"));
                 Due.due("a bracket is open", -41, Due.rule(x, "(" + thirtyNine + ")"));
                 Due.due("80 signs", -41, Due.rule(x, "n+".repeat(40)));
+                Due.due("80 signs -", -41, Due.rule(x, "-".repeat(80)));
                 Due.due("a fault ahead of them", -40, Due.rule(x, thirtyNine + "n+n"));
                 Due.due("a fault at first", -1, Due.rule(x, "?" + forty));
             });

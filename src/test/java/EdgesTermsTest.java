@@ -168,6 +168,7 @@ public final class EdgesTermsTest {
         });
         edge("EXPRESSION: < > = bind least (two; 1 or 0;", () -> {
             prices(new String[] {"1<2", "2<2", "3<2", "1>2", "2>2", "3>2", "1=2", "2=2", "3=2"}, 1, 0, 0, 0, 0, 1, 0, 1, 0);
+            prices(new String[] {"(1<2)+5", "(2<1)+5", "(3>2)+5", "(2>3)+5", "(2=2)+5", "(2=3)+5"}, 6, 5, 6, 5, 6, 5);
             prices(new String[] {"1+1=2", "1=2-1", "2*2>3", "5<2*3", "-3<-2", "0-1<0", "6/2=3", "1<2+90"}, 1, 1, 1, 1, 1, 1, 1, 1);
             refused("1<", -3);
             refused("<1", -1);
@@ -254,6 +255,11 @@ public final class EdgesTermsTest {
             Due.due("m of one", 1, price("m", "c"));
             Due.due("m of abcd", 1, price("m", "abcd"));
             Due.due("m of d", 3, price("m", "daddbba"));
+            String[] bracelets = {"bba", "bbba", "bbbc", "cccb", "ddda", "abbb", "baaab"};
+            int[] want = {2, 3, 3, 3, 3, 3, 3};
+            for (int i = 0; i < want.length; i++) {
+                Due.due("m of " + bracelets[i], want[i], price("m", bracelets[i]));
+            }
             Due.due("m of ten", 10, price("m", "bbbbbbbbbb"));
         });
         edge("d how many BEADS are of another COLOUR than the one behind (around; of one BEAD: 0),", () -> {
@@ -425,20 +431,28 @@ public final class EdgesTermsTest {
             BeadRings x = Due.lived("abca");
             Due.onlyTextIsEmptied(x, () -> {
                 Due.due("strings", -2, Due.strings(x, "ax"));
-                Due.due("THE TEXT", 0, x.count(9));
                 Due.due("rule", -2, Due.rule(x, "nn"));
-                Due.due("THE TEXT", 0, x.count(9));
                 Due.due("day", -3, Due.day(x, "f0q"));
-                Due.due("THE TEXT", 0, x.count(9));
                 Due.due("finds", -100, Due.finds(x, 1, "a"));
-                Due.due("THE TEXT", 0, x.count(9));
                 Due.due("ways", -1, Due.ways(x, "e"));
-                Due.due("THE TEXT", 0, x.count(9));
                 Due.due("law", -10000, Due.law(x, "+"));
             });
-            Due.text(x, "abcd");
-            x.strings();
-            Due.due("a call that is done empties it, too", 0, x.count(9));
+        });
+        edge("which a call that reads it empties.", () -> {
+            BeadRings x = Due.lived("abca");
+            Due.due("strings", 1, Due.strings(x, "abcd"));
+            Due.due("rule", 0, Due.rule(x, "n"));
+            Due.due("day", 1, Due.day(x, "f0"));
+            Due.due("day of which one was refused", 0, Due.day(x, "f9f0"));
+            Due.due("finds", 1, Due.finds(x, 1, "a"));
+            Due.due("ways", 2, Due.ways(x, "aabb"));
+            Due.due("law", 24, Due.law(x, "n*n"));
+            Due.due("strings of eleven", -11, Due.strings(x, "aaaaaaaaaaa"));
+            Due.due("rule of 41", -41, Due.rule(x, "-".repeat(41)));
+            Due.due("day of 61", -61, Due.day(x, "f0".repeat(30) + "f"));
+            Due.due("finds of eleven", -11, Due.finds(x, 0, "aaaaaaaaaaa"));
+            Due.due("ways of eleven", -11, Due.ways(x, "aaaaaaaaaaa"));
+            Due.due("law of 41", -10040, Due.law(x, "-".repeat(41)));
         });
     }
 
