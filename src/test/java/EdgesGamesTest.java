@@ -131,6 +131,7 @@ public final class EdgesGamesTest {
         });
         Edge.of(48, "else neither has anything, and who asks for more pays 2.", () -> {
             // Beside those that are v together, x and x of v or more rest: another one has nothing, or pays.
+            // That it pays can be seen (else more pairs would rest); how much can't: by 1 or 3 the same ones would.
             BeadRings x = new BeadRings();
             for (int v = 1; v <= 9; v++) {
                 Due.due("bargains(" + v + ")", v + 1 + 10 - v, x.bargains(v));
@@ -254,6 +255,7 @@ public final class EdgesGamesTest {
             Due.due("the sixtieth is one", x.years(last, 59) + 1, x.years(last, 60));
         });
         Edge.of(49, "a DRAW of 4, without BRACELETS nothing more;", () -> {
+            // How many draws such a year has changes no answer: no bracelet comes in later years.
             BeadRings x = new BeadRings();
             for (int seed = -5; seed < 5; seed++) {
                 Due.due("years", 0, x.years(seed, 60));
