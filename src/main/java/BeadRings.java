@@ -855,7 +855,8 @@ public final class BeadRings {
 
         static int rolled(int row, int n, int by) {
             int rest = n > 0 ? by % n : 0;
-            return (row << 2 * rest | row >> 2 * (n - rest)) & mask(n);
+            int begins = 2 * (n - rest);
+            return (row & (1 << begins) - 1) << 2 * rest | row >> begins;
         }
 
         static int flipped(int row, int n) {
@@ -928,7 +929,13 @@ public final class BeadRings {
         }
 
         static int numberOf(int colour, int row, int n) {
-            return n - apart(row, colour * LOW_BITS & mask(n));
+            int number = 0;
+            for (int i = 0; i < n; i++) {
+                if ((row >> 2 * i & 3) == colour) {
+                    number++;
+                }
+            }
+            return number;
         }
 
         static int colourBits(int row, int n) {
@@ -1254,6 +1261,7 @@ public final class BeadRings {
         private int depth;
         private int digits;
         private int comparedDepths;
+        private int height;
         private boolean wantsThing;
 
         /** The place of the first sign that can't stand there, or NONE if the text is a rule. */
@@ -1291,7 +1299,7 @@ public final class BeadRings {
         private boolean takesDigit(int digit) {
             if (wantsThing) {
                 addStep(digit);
-            } else if (digits == 1 || digits == 2) {
+            } else if ((digits == 1 || digits == 2) && stepNumber > 0) {
                 steps[stepNumber - 1] = steps[stepNumber - 1] * 10 + digit;
             } else {
                 return false;
@@ -1398,23 +1406,36 @@ public final class BeadRings {
             if (stepNumber == 0) {
                 return n + 2 * Integer.bitCount(Beads.colourBits(row, n));
             }
-            int top = -1;
+            height = 0;
             for (int i = 0; i < stepNumber; i++) {
                 int step = steps[i];
                 if (step >= 0) {
-                    top++;
-                    stack[top] = step;
+                    push(step);
                 } else if (isTrait(-step)) {
-                    top++;
-                    stack[top] = trait(-step, row, n, alike);
+                    push(trait(-step, row, n, alike));
                 } else if (step == -NEGATE) {
-                    stack[top] = -stack[top];
+                    push(-pop());
                 } else {
-                    top--;
-                    stack[top] = joined(-step, stack[top], stack[top + 1]);
+                    int right = pop();
+                    push(joined(-step, pop(), right));
                 }
             }
-            return Math.max(0, Math.min(99, stack[0]));
+            return Math.max(0, Math.min(99, pop()));
+        }
+
+        private void push(int number) {
+            if (height < MOST_RULE_SIGNS) {
+                stack[height] = number;
+                height++;
+            }
+        }
+
+        private int pop() {
+            if (height == 0) {
+                return 0;
+            }
+            height--;
+            return stack[height];
         }
 
         private static int trait(int sign, int row, int n, int alike) {
@@ -1814,7 +1835,7 @@ public final class BeadRings {
         }
 
         /** Each row that some roll keeps is a lesser such row, told again and again. */
-        static int rowsThatNoRollKeeps(int n, int k) {
+        private static int rowsThatNoRollKeeps(int n, int k) {
             int rows = power(k, n);
             for (int d = 1; d < n; d++) {
                 if (n % d == 0) {
