@@ -754,7 +754,7 @@ public final class BeadRings {
      */
     private void addOnce(int start, int n, int period, int k, int w) {
         if (n >= w) {
-            if (w % period == 0) {
+            if (period > 0 && w % period == 0) {
                 told.addRow(start >> 2 * (w - period), period);
             }
             return;
@@ -1736,7 +1736,7 @@ public final class BeadRings {
         /** A bead less than the one a period ahead would let a roll make a lesser row: none such is grown. */
         private void grow(int start, int size, int period, int n) {
             if (size >= n) {
-                if (n % period == 0 && !Beads.isLessFlipped(start, n) && filled < STARTS[n + 1]) {
+                if (period > 0 && n % period == 0 && !Beads.isLessFlipped(start, n) && filled < STARTS[n + 1]) {
                     rows[filled] = start;
                     filled++;
                 }
